@@ -466,7 +466,6 @@ public final class CostSteps {
         private final int[] parts = new int[MAX_ROWS];
         private int rowCount = 0;
 
-        /** Clears the rows beyond its own too: a later quote with more rows is compared with them. */
         private void begin(int rows) {
             rowCount = rows;
             for (int row = 0; row < MAX_ROWS; row++) {

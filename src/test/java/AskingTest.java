@@ -207,6 +207,8 @@ final class AskingTest {
         CostSteps x = new CostSteps();
         x.board(1, 1, 10);
         x.tooling(7);
+        CHECK.due("14: one board", 17, x.each(1, 1, 0, 0));
+        CHECK.due("14: one board has no rest", 0, x.each(1, 1, 0, 1));
         CHECK.due("14: cents of each", 12, x.each(3, 1, 0, 0));
         CHECK.due("14: the rest", 1, x.each(3, 1, 0, 1));
         x.yieldOf(1, 2);

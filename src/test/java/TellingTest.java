@@ -253,6 +253,11 @@ final class TellingTest {
         CHECK.due("9: on the last", 30, x.total(1, 2, 20));
         CHECK.due("9: long behind the last", 30, x.total(1, 2, Long.MAX_VALUE));
         CHECK.due("9: long before the first", 10, x.total(1, 2, Long.MIN_VALUE));
+        x.currency(2, 30, 4, 1);
+        CHECK.due("9: a later day told later", 40, x.total(1, 2, 30));
+        x.currency(2, 15, 6, 1);
+        CHECK.due("9: a day between told last", 60, x.total(1, 2, 19));
+        CHECK.due("9: the latest day, not the last told", 40, x.total(1, 2, 31));
         x.currency(2, Long.MIN_VALUE, 7, 1);
         CHECK.due("9: the least day is a day", 70, x.total(1, 2, Long.MIN_VALUE));
         x.board(3, 1, 10);
@@ -309,6 +314,11 @@ final class TellingTest {
         CHECK.no("16: alternate(0, 2) again", x.alternate(0, 2));
         CHECK.due("16: bought as part 2", 6, x.total(1, 0, 0));
         CHECK.due("16: which part", 2, x.row(3, 2));
+        CHECK.no("16: alternate(0, 1) is so still", x.alternate(0, 1));
+        x.price(1, 0, 1, 4);
+        CHECK.due("16: bought as part 1, the cheaper alternate", 5, x.total(1, 0, 0));
+        x.price(1, 0, 1, 9);
+        CHECK.due("16: bought as part 2 again", 6, x.total(1, 0, 0));
         x.stock(2, 100);
         CHECK.due("16: an alternate's stock is not used", 6, x.total(1, 0, 0));
         CHECK.no("16: a part of itself", x.alternate(1, 1));
