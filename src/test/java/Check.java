@@ -1,27 +1,38 @@
-/** Counts the answers of one test that are not as due, and prints each. */
+import java.util.Objects;
+
+/** Counts the answers of one test that are not as due, and prints each with the sentence that asks for it. */
 final class Check {
-    /** A call of which only the answer, as a number, or the exception matters. */
+    /** A call of which only the answer or the exception matters. */
     interface Call {
-        long answer();
+        Object answer();
     }
 
     private int checked = 0;
     private int wrong = 0;
+    private String sentence = "";
+
+    /** From here on the answers are those that this sentence of the document asks for. */
+    void of(String words) {
+        sentence = words + ": ";
+    }
 
     void due(String call, long want, long got) {
-        checked++;
-        if (got != want) {
-            wrong++;
-            System.out.println(call + " answered " + got + ", due is " + want);
-        }
+        same(call, want, got);
     }
 
     void yes(String call, boolean got) {
-        due(call, 1, got ? 1 : 0);
+        same(call, true, got);
     }
 
     void no(String call, boolean got) {
-        due(call, 0, got ? 1 : 0);
+        same(call, false, got);
+    }
+
+    void same(String call, Object want, Object got) {
+        checked++;
+        if (!Objects.equals(want, got)) {
+            wrong(call, "answered " + got, String.valueOf(want));
+        }
     }
 
     void noIndex(String call, Call made) {
@@ -32,20 +43,33 @@ final class Check {
         thrown(call, IllegalArgumentException.class, made);
     }
 
-    /** The class must be the very one: a class below it would be thrown by the machine. */
-    private void thrown(String call, Class<?> want, Call made) {
+    void answers(String call, Call made) {
         checked++;
-        String got = "answered ";
         try {
-            got += made.answer();
+            made.answer();
+        } catch (RuntimeException e) {
+            wrong(call, "threw " + e, "an answer");
+        }
+    }
+
+    /** The class must be the very one: a class below it would be thrown by the machine. */
+    void thrown(String call, Class<? extends RuntimeException> want, Call made) {
+        checked++;
+        String got;
+        try {
+            got = "answered " + made.answer();
         } catch (RuntimeException e) {
             if (e.getClass() == want) {
                 return;
             }
             got = "threw " + e;
         }
+        wrong(call, got, want.getSimpleName());
+    }
+
+    private void wrong(String call, String got, String want) {
         wrong++;
-        System.out.println(call + " " + got + ", due is " + want.getSimpleName());
+        System.out.println(sentence + call + " " + got + ", due is " + want);
     }
 
     void end() {
@@ -53,9 +77,5 @@ final class Check {
         if (wrong != 0) {
             System.exit(1);
         }
-    }
-
-    static long number(boolean answer) {
-        return answer ? 1 : 0;
     }
 }

@@ -111,7 +111,7 @@ final class ModelTest {
     private static long answer(Method call, Object on, Object[] arguments) throws IllegalAccessException {
         try {
             Object answer = call.invoke(on, arguments);
-            return answer instanceof Boolean b ? Check.number(b) : ((Number) answer).longValue();
+            return answer instanceof Boolean b ? (b ? 1 : 0) : ((Number) answer).longValue();
         } catch (InvocationTargetException e) {
             Class<?> thrown = e.getCause().getClass();
             if (thrown == IndexOutOfBoundsException.class) {
