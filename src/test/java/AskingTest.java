@@ -481,10 +481,19 @@ final class AskingTest {
         rowIsDue("a part from the stock", x, 3, 0, -1, -1);
         rowIsDue("a part without stock", x, 4, 4, 5, 0);
         x.total(0, 2, 0);
-        for (int k = 0; k < 6; k++) {
-            rowIsDue("none started", x, k, 0, -1, -1);
+        everyRowIsEmpty("none started", x);
+        for (int i = 0; i < 5; i++) {
+            x.total(4 + i, 2, 0);
+            x.total(0, 2, 0);
+            everyRowIsEmpty("none started, after many totals", x);
         }
         mostPiecesOfARow();
+    }
+
+    private static void everyRowIsEmpty(String of, CostSteps x) {
+        for (int k = 0; k < 6; k++) {
+            rowIsDue(of, x, k, 0, -1, -1);
+        }
     }
 
     private static void mostPiecesOfARow() {
