@@ -421,6 +421,10 @@ final class TermsTest {
         CHECK.due("each of more than a billion", -1, x.each(999_001, 0, 0, 0));
         CHECK.due("suppliers of more than a billion", -1, x.suppliers(999_001, 0));
         CHECK.due("the boards of what could be", BILLION, x.row(1, 0));
+        CostSteps same = Samples.withBoards();
+        same.yieldOf(1_000, 1_000);
+        same.yieldOf(1, 1_000);
+        CHECK.due("a billion on the way, and no more at the end", BILLION, same.total(MILLION, 0, 0));
         CostSteps y = Samples.withBoards();
         y.yieldOf(999, 1_000);
         y.yieldOf(1, 1_000);
