@@ -39,6 +39,10 @@ final class Document {
         return end < 0 ? body : body.substring(end + 2).trim();
     }
 
+    String text(String name) {
+        return sections.getOrDefault(name, "");
+    }
+
     void section(String name) {
         section = name;
         check.of(name);
@@ -47,7 +51,7 @@ final class Document {
 
     /** The tests that follow are of these words of the section. */
     void quote(String words) {
-        String text = sections.getOrDefault(section, "");
+        String text = text(section);
         check.of(section + ", \"" + words + "\"");
         check.yes("that the document says so", text.contains(words));
         for (int at = text.indexOf(words); at >= 0; at = text.indexOf(words, at + 1)) {
@@ -62,7 +66,7 @@ final class Document {
 
     /** What no test has quoted, but for the signs between sentences. */
     private String unquoted() {
-        String text = sections.getOrDefault(section, "");
+        String text = text(section);
         StringBuilder left = new StringBuilder();
         for (int i = 0; i < text.length(); i++) {
             boolean isQuoted = quoted.get(section).get(i);
